@@ -7,6 +7,7 @@ final class FoldTest {
         t.constants();
         t.twins();
         t.laterTwins();
+        t.crossedTwins();
         t.left();
         t.wrongLiterals();
         t.c.end();
@@ -59,6 +60,18 @@ final class FoldTest {
         alike(x, 16, 18, 0);
         c.due("folded()", x.folded(), 3);
         c.due("gates in cones", x.look(8), 5);
+    }
+
+    /** Twins whose literals lie the other way round before they are folded. */
+    private void crossedTwins() {
+        GateText x = Checks.loaded("aag 9 2 0 2 6\n2\n4\n8\n16\n"
+                + "6 2 1\n8 6 4\n10 4 1\n12 10 1\n16 12 2\n18 12 3\n");
+        alike(x, 8, 16, 1);
+        alike(x, 8, 18, 0);
+        c.due("folded()", x.folded(), 1);
+        GateText y = Checks.loaded("aag 9 2 0 2 4\n2\n4\n8\n16\n6 2 1\n8 6 4\n12 6 1\n16 12 4\n");
+        alike(y, 8, 16, 1);
+        c.due("folded()", y.folded(), 1);
     }
 
     /** What only a folded gate needed is not left; what is in no output's cone never counts. */

@@ -18,6 +18,7 @@ final class LoadTest {
         t.order();
         t.goodTexts();
         t.afterErrors();
+        t.afterLarger();
         t.c.end();
     }
 
@@ -56,6 +57,9 @@ final class LoadTest {
         bad("aag  0 0 0 0 0\n", 2, 4);
         bad("aag x", 2, 4);
         bad("aag -1 0 0 0 0\n", 2, 4);
+        bad("aag : 0 0 0 0\n", 2, 4);
+        bad("aag 1: 0 0 0 0\n", 2, 5);
+        bad("aag 1/ 0 0 0 0\n", 2, 5);
         bad("aag 01 0 0 0 0\n", 2, 5);
         bad("aag 00 0 0 0 0\n", 2, 5);
         bad("aag 1", 2, 5);
@@ -275,5 +279,22 @@ final class LoadTest {
         c.throwsDue("depth(2)", IllegalArgumentException.class, () -> x.depth(2));
         c.due("depth(6)", x.depth(6), 1);
         c.due("depth(10)", x.depth(10), 0);
+    }
+
+    /** Nothing of larger circuits shows in a smaller one that comes behind them. */
+    private void afterLarger() {
+        for (int second : new int[] {1, 6, 11, 10}) {
+            GateText x = new GateText();
+            String larger = "aag 5 2 0 2 2\n2\n10\n2\n" + second + "\n6 2 2\n8 10 11\n";
+            c.due("a larger circuit", Checks.load(x, larger), 0);
+            c.due("and once more", Checks.load(x, larger), 0);
+            c.due("a smaller circuit", Checks.load(x, "aag 5 1 0 1 1\n2\n2\n6 2 3\n"), 0);
+            c.due("outputs(0)", x.outputs(0), 0);
+            c.due("outputs(1)", x.outputs(1), 1);
+            c.due("gates in cones", x.look(8), 0);
+            c.due("folded()", x.folded(), 0);
+            c.due("alike(6, 0)", x.alike(6, 0), 1);
+            c.due("as aag", Checks.written(x, false), "aag 1 1 0 1 0\n2\n2\n");
+        }
     }
 }
