@@ -3,8 +3,26 @@ import java.util.function.LongSupplier;
 
 /** What every test uses: answers against those that are due, and texts to and from a GateText. */
 final class Checks {
+    /** A circuit that is there before a text with an error is read. */
+    static final String KEPT = "aag 3 2 0 1 1\n2\n4\n6\n6 4 2\n";
+
     private int made;
     private int wrong;
+    private String sentence = "";
+    private int madeBefore;
+
+    /** What follows tests this sentence of the document; a sentence that nothing tests is wrong. */
+    void sentence(String where, String quote) {
+        endSentence();
+        sentence = where + ": " + quote;
+        madeBefore = made;
+    }
+
+    private void endSentence() {
+        if (!sentence.isEmpty() && made == madeBefore) {
+            tellWrong("nothing was tested");
+        }
+    }
 
     void due(String what, long got, long want) {
         made++;
@@ -35,16 +53,40 @@ final class Checks {
     private void tellWrong(String text) {
         wrong++;
         if (wrong <= 40) {
-            System.out.println("  " + text);
+            System.out.println("  " + (sentence.isEmpty() ? "" : "[" + sentence + "] ") + text);
         }
     }
 
     /** Ends the test: exit code 1 if any answer was not as due. */
     void end() {
+        endSentence();
         System.out.println("  " + made + " checks, " + wrong + " wrong");
         if (wrong != 0 || made == 0) {
             System.exit(1);
         }
+    }
+
+    /** A text that is read without an error, and what is written of its circuit. */
+    void good(String text, String asDecimal) {
+        GateText x = new GateText();
+        due("load of " + shown(text), load(x, text), 0);
+        due("error of " + shown(text), x.look(6), 0);
+        due("place in " + shown(text), x.look(7), 0);
+        due("tape behind " + shown(text), x.look(4), 0);
+        due("circuit of " + shown(text), written(x, false), asDecimal);
+    }
+
+    /** A text that has an error: which, where, and that the circuit stays. */
+    void bad(String text, int error, int place) {
+        GateText x = loaded(KEPT);
+        due("load of " + shown(text), load(x, text), error);
+        due("error of " + shown(text), x.look(6), error);
+        due("place in " + shown(text), x.look(7), place);
+        due("tape behind " + shown(text), x.look(4), 0);
+        due("the circuit stays: M", x.look(3), 3);
+        due("the circuit stays: cones", x.look(8), 1);
+        due("the circuit stays: outputs", x.outputs(3) * 10 + x.outputs(1), 10);
+        due("the circuit stays", written(x, false), KEPT);
     }
 
     static byte[] bytes(String text) {

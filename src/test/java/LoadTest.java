@@ -1,6 +1,5 @@
 /** Promise 3: load, with each error and its place. */
 final class LoadTest {
-    private static final String KEPT = "aag 3 2 0 1 1\n2\n4\n6\n6 4 2\n";
     private final Checks c = new Checks();
 
     public static void main(String[] args) {
@@ -22,26 +21,12 @@ final class LoadTest {
         t.c.end();
     }
 
-    /** A text that has an error: which, where, and that the circuit stays. */
     private void bad(String text, int error, int place) {
-        GateText x = Checks.loaded(KEPT);
-        c.due("load of " + Checks.shown(text), Checks.load(x, text), error);
-        c.due("error of " + Checks.shown(text), x.look(6), error);
-        c.due("place in " + Checks.shown(text), x.look(7), place);
-        c.due("tape behind " + Checks.shown(text), x.look(4), 0);
-        c.due("the circuit stays: M", x.look(3), 3);
-        c.due("the circuit stays: cones", x.look(8), 1);
-        c.due("the circuit stays: outputs", x.outputs(3) * 10 + x.outputs(1), 10);
-        c.due("the circuit stays", Checks.written(x, false), KEPT);
+        c.bad(text, error, place);
     }
 
     private void good(String text, String asDecimal) {
-        GateText x = new GateText();
-        c.due("load of " + Checks.shown(text), Checks.load(x, text), 0);
-        c.due("error of " + Checks.shown(text), x.look(6), 0);
-        c.due("place in " + Checks.shown(text), x.look(7), 0);
-        c.due("tape behind " + Checks.shown(text), x.look(4), 0);
-        c.due("circuit of " + Checks.shown(text), Checks.written(x, false), asDecimal);
+        c.good(text, asDecimal);
     }
 
     private void letters() {
@@ -269,7 +254,7 @@ final class LoadTest {
         GateText x = new GateText();
         c.due("bad", Checks.load(x, "aag 2 0 0 1 0\n4\n"), 7);
         c.due("place", x.look(7), 2);
-        c.due("good", Checks.load(x, KEPT), 0);
+        c.due("good", Checks.load(x, Checks.KEPT), 0);
         c.due("error", x.look(6), 0);
         c.due("place", x.look(7), 0);
         // What an error left half read does not show in the next circuit.
