@@ -6,21 +6,34 @@ final class Checks {
     /** A circuit that is there before a text with an error is read. */
     static final String KEPT = "aag 3 2 0 1 1\n2\n4\n6\n6 4 2\n";
 
+    private static final int MOST_TOLD = 20;
+
     private int made;
     private int wrong;
     private String sentence = "";
     private int madeBefore;
+    private int toldOfSentence;
 
     /** What follows tests this sentence of the document; a sentence that nothing tests is wrong. */
     void sentence(String where, String quote) {
         endSentence();
         sentence = where + ": " + quote;
         madeBefore = made;
+        toldOfSentence = 0;
     }
 
     private void endSentence() {
         if (!sentence.isEmpty() && made == madeBefore) {
             tellWrong("nothing was tested");
+        }
+    }
+
+    /** One part of a test: what it throws is wrong too, and does not hide the parts behind it. */
+    void part(Runnable part) {
+        try {
+            part.run();
+        } catch (RuntimeException | AssertionError e) {
+            tellWrong("was ended by " + e);
         }
     }
 
@@ -52,7 +65,8 @@ final class Checks {
 
     private void tellWrong(String text) {
         wrong++;
-        if (wrong <= 40) {
+        toldOfSentence++;
+        if (toldOfSentence <= MOST_TOLD) {
             System.out.println("  " + (sentence.isEmpty() ? "" : "[" + sentence + "] ") + text);
         }
     }

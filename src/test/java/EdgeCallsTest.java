@@ -11,27 +11,27 @@ final class EdgeCallsTest {
 
     public static void main(String[] args) {
         EdgeCallsTest t = new EdgeCallsTest();
-        t.newObject();
-        t.feedCounts();
-        t.feedBytes();
-        t.feedWrong();
-        t.feedFull();
-        t.tapeUsedUp();
-        t.valueLiterals();
-        t.valueInputs();
-        t.outputsInputs();
-        t.outputsBits();
-        t.literals();
-        t.literalOrder();
-        t.depths();
-        t.cones();
-        t.alikeLiterals();
-        t.outPlaces();
-        t.outSign();
-        t.lookWhat();
-        t.lookError();
-        t.lookCones();
-        t.manyCalls();
+        t.c.part(t::newObject);
+        t.c.part(t::feedCounts);
+        t.c.part(t::feedBytes);
+        t.c.part(t::feedWrong);
+        t.c.part(t::feedFull);
+        t.c.part(t::tapeUsedUp);
+        t.c.part(t::valueLiterals);
+        t.c.part(t::valueInputs);
+        t.c.part(t::outputsInputs);
+        t.c.part(t::outputsBits);
+        t.c.part(t::literals);
+        t.c.part(t::literalOrder);
+        t.c.part(t::depths);
+        t.c.part(t::cones);
+        t.c.part(t::alikeLiterals);
+        t.c.part(t::outPlaces);
+        t.c.part(t::outSign);
+        t.c.part(t::lookWhat);
+        t.c.part(t::lookError);
+        t.c.part(t::lookCones);
+        t.c.part(t::manyCalls);
         t.c.end();
     }
 

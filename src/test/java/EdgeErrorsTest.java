@@ -4,23 +4,23 @@ final class EdgeErrorsTest {
 
     public static void main(String[] args) {
         EdgeErrorsTest t = new EdgeErrorsTest();
-        t.latches();
-        t.oddOwn();
-        t.constantOwn();
-        t.ownAbove();
-        t.ownTwice();
-        t.usedAbove();
-        t.stepP();
-        t.stepPBeforeQ();
-        t.stepQ();
-        t.formBeforeLiterals();
-        t.literalsFromLeft();
-        t.standsForNothing();
-        t.leastMissing();
-        t.dependsOnItself();
-        t.leastLooped();
-        t.firstMet();
-        t.latestError();
+        t.c.part(t::latches);
+        t.c.part(t::oddOwn);
+        t.c.part(t::constantOwn);
+        t.c.part(t::ownAbove);
+        t.c.part(t::ownTwice);
+        t.c.part(t::usedAbove);
+        t.c.part(t::stepP);
+        t.c.part(t::stepPBeforeQ);
+        t.c.part(t::stepQ);
+        t.c.part(t::formBeforeLiterals);
+        t.c.part(t::literalsFromLeft);
+        t.c.part(t::standsForNothing);
+        t.c.part(t::leastMissing);
+        t.c.part(t::dependsOnItself);
+        t.c.part(t::leastLooped);
+        t.c.part(t::firstMet);
+        t.c.part(t::latestError);
         t.c.end();
     }
 

@@ -4,19 +4,19 @@ final class EdgeFoldTest {
 
     public static void main(String[] args) {
         EdgeFoldTest t = new EdgeFoldTest();
-        t.withZero();
-        t.withInverse();
-        t.withOne();
-        t.twice();
-        t.twins();
-        t.noTwins();
-        t.fromTheInputsOn();
-        t.noOtherRule();
-        t.noOutputs();
-        t.constantOutputs();
-        t.sharedOutputs();
-        t.outsideCones();
-        t.mostGates();
+        t.c.part(t::withZero);
+        t.c.part(t::withInverse);
+        t.c.part(t::withOne);
+        t.c.part(t::twice);
+        t.c.part(t::twins);
+        t.c.part(t::noTwins);
+        t.c.part(t::fromTheInputsOn);
+        t.c.part(t::noOtherRule);
+        t.c.part(t::noOutputs);
+        t.c.part(t::constantOutputs);
+        t.c.part(t::sharedOutputs);
+        t.c.part(t::outsideCones);
+        t.c.part(t::mostGates);
         t.c.end();
     }
 

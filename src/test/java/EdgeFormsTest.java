@@ -14,25 +14,25 @@ final class EdgeFormsTest {
 
     public static void main(String[] args) {
         EdgeFormsTest t = new EdgeFormsTest();
-        t.baseTexts();
-        t.firstFour();
-        t.cutFirstLine();
-        t.cutBehind();
-        t.digits();
-        t.firstDigit();
-        t.noNumber();
-        t.wrongBytes();
-        t.blanks();
-        t.lineEnds();
-        t.linesAtAnyPlace();
-        t.gatesInAnyOrder();
-        t.binaryVariables();
-        t.oneByteSteps();
-        t.twoByteSteps();
-        t.secondBytes();
-        t.ends();
-        t.behindTheEnd();
-        t.stepsThatLookLikeEnds();
+        t.c.part(t::baseTexts);
+        t.c.part(t::firstFour);
+        t.c.part(t::cutFirstLine);
+        t.c.part(t::cutBehind);
+        t.c.part(t::digits);
+        t.c.part(t::firstDigit);
+        t.c.part(t::noNumber);
+        t.c.part(t::wrongBytes);
+        t.c.part(t::blanks);
+        t.c.part(t::lineEnds);
+        t.c.part(t::linesAtAnyPlace);
+        t.c.part(t::gatesInAnyOrder);
+        t.c.part(t::binaryVariables);
+        t.c.part(t::oneByteSteps);
+        t.c.part(t::twoByteSteps);
+        t.c.part(t::secondBytes);
+        t.c.part(t::ends);
+        t.c.part(t::behindTheEnd);
+        t.c.part(t::stepsThatLookLikeEnds);
         t.c.end();
     }
 

@@ -16,10 +16,10 @@ final class EdgeRefusedTest {
 
     public static void main(String[] args) {
         EdgeRefusedTest t = new EdgeRefusedTest();
-        t.firstListed();
-        t.listRefused();
-        t.nothingChanges();
-        t.fullTapeStays();
+        t.c.part(t::firstListed);
+        t.c.part(t::listRefused);
+        t.c.part(t::nothingChanges);
+        t.c.part(t::fullTapeStays);
         t.c.end();
     }
 

@@ -6,17 +6,17 @@ final class EdgeSizesTest {
 
     public static void main(String[] args) {
         EdgeSizesTest t = new EdgeSizesTest();
-        t.mostInputs();
-        t.mostGates();
-        t.mostOutputs();
-        t.mostVariables();
-        t.allAtTheirMost();
-        t.tooLarge();
-        t.decimalSum();
-        t.binarySum();
-        t.variableZero();
-        t.nothing();
-        t.emptyCircuit();
+        t.c.part(t::mostInputs);
+        t.c.part(t::mostGates);
+        t.c.part(t::mostOutputs);
+        t.c.part(t::mostVariables);
+        t.c.part(t::allAtTheirMost);
+        t.c.part(t::tooLarge);
+        t.c.part(t::decimalSum);
+        t.c.part(t::binarySum);
+        t.c.part(t::variableZero);
+        t.c.part(t::nothing);
+        t.c.part(t::emptyCircuit);
         t.c.end();
     }
 

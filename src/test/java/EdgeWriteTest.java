@@ -6,19 +6,19 @@ final class EdgeWriteTest {
 
     public static void main(String[] args) {
         EdgeWriteTest t = new EdgeWriteTest();
-        t.emptyCircuit();
-        t.noGates();
-        t.conesAlone();
-        t.byDepth();
-        t.byVariable();
-        t.inputsAnew();
-        t.greaterFirst();
-        t.nothingFolded();
-        t.stepLengths();
-        t.digits();
-        t.longest();
-        t.latest();
-        t.circuitStays();
+        t.c.part(t::emptyCircuit);
+        t.c.part(t::noGates);
+        t.c.part(t::conesAlone);
+        t.c.part(t::byDepth);
+        t.c.part(t::byVariable);
+        t.c.part(t::inputsAnew);
+        t.c.part(t::greaterFirst);
+        t.c.part(t::nothingFolded);
+        t.c.part(t::stepLengths);
+        t.c.part(t::digits);
+        t.c.part(t::longest);
+        t.c.part(t::latest);
+        t.c.part(t::circuitStays);
         t.c.end();
     }
 
