@@ -273,6 +273,8 @@ final class EdgeErrorsTest {
         // Two loops that share gate 5.
         c.bad("aag 5 0 0 0 5\n2 1 1\n4 1 1\n6 10 2\n8 10 4\n10 6 8\n", 8, 3);
         c.bad("aag 1000 0 0 0 2\n2000 1999 1\n1998 2000 1\n", 8, 999);
+        // Gates 1, 3 and 2 lead into the loop of gate 4: what gate 1 needs says nothing of gate 2.
+        c.bad("aag 4 0 0 0 4\n2 8 6\n4 8 8\n6 4 4\n8 8 8\n", 8, 4);
     }
 
     private void firstMet() {
